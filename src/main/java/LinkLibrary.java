@@ -413,7 +413,9 @@ public final class LinkLibrary {
         }
 
         private void addRange(Row from, int start, int end) {
-            int count = Math.min(Math.min(end, from.size) - start, bytes.length - size);
+            int room = bytes.length - size;
+            int wanted = (end < from.size ? end : from.size) - start;
+            int count = wanted < room ? wanted : room;
             if (start >= 0 && count > 0 && start <= from.bytes.length - count && size >= 0) {
                 System.arraycopy(from.bytes, start, bytes, size, count);
                 size += count;
@@ -697,7 +699,6 @@ public final class LinkLibrary {
 
         private void compose(Row text) {
             text.clear();
-            text.there = true;
             addWithMark(text, scheme, NONE, ':');
             if (host.there) {
                 text.addText("//");

@@ -29,6 +29,7 @@ public final class NormaliseTest {
         normal("HTTP://Us%6aer@EX%4aMPLE.Org:80/A%3dB?C%3dD#E%3dF", 1,
             "http://Us%6Aer@ex%4Ample.org:80/A%3DB?C%3DD#E%3DF");
         normal("S://[FE80::ABcd]", 1, "s://[fe80::abcd]");
+        normal("ZAza://Z@ZAza/Z", 1, "zaza://Z@zaza/Z");
         normal("S://[V1F.AbC]", 1, "s://[v1f.abc]");
         normal("A/B", 1, "A/B");
         normal("A+B-C.1:X", 1, "a+b-c.1:X");
