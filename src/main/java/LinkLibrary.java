@@ -586,15 +586,17 @@ public final class LinkLibrary {
         /** Every segment that stays keeps the / behind it, so a path whose last one went ends in /. */
         private void removeDots() {
             int floor = at(0) == '/' ? 1 : 0;
+            int segments = count('/', floor) + 1;
             int kept = floor;
-            int end;
-            for (int start = floor; start <= size; start = end + 1) {
-                end = find('/', start, size);
+            int start = floor;
+            for (int i = 0; i < segments; i++) {
+                int end = find('/', start, size);
                 if (isDots(start, end, 2)) {
                     kept = Math.max(findLast('/', floor, kept - 1) + 1, floor);
                 } else if (!isDots(start, end, 1)) {
                     kept = moveDown(start, Math.min(end + 1, size), kept);
                 }
+                start = end + 1;
             }
             cut(kept);
         }
@@ -983,37 +985,27 @@ public final class LinkLibrary {
             return number <= 255 ? number : NONE;
         }
 
+        /** Each round takes one group at least, so there are no more rounds than groups. */
         private boolean takeSix(Row text, int start, int end) {
             int count = 0;
-            int gap = NONE;
-            int i = start;
-            if (isGap(text, i, end)) {
-                gap = 0;
-                i += 2;
-            }
-            while (i < end) {
+            int gap = isGap(text, start, end) ? 0 : NONE;
+            int i = gap == 0 ? start + 2 : start;
+            while (i < end && count < groups.length) {
                 int stop = text.find(':', i, end);
                 boolean four = stop == end && text.find('.', i, end) < end;
                 boolean taken = four ? takeFour(text, i, end, count) : takeGroup(text, i, stop, count);
-                if (!taken) {
+                boolean second = gap != NONE && isGap(text, stop, end);
+                if (!taken || second || stop == end - 1) {
                     return false;
                 }
                 count += four ? 2 : 1;
-                i = stop;
-                if (isGap(text, i, end)) {
-                    if (gap != NONE) {
-                        return false;
-                    }
+                i = stop + 1;
+                if (isGap(text, stop, end)) {
                     gap = count;
-                    i += 2;
-                } else if (i < end) {
                     i++;
-                    if (i == end) {
-                        return false;
-                    }
                 }
             }
-            return gap == NONE ? count == groups.length : spread(count, gap);
+            return i >= end && (gap == NONE ? count == groups.length : spread(count, gap));
         }
 
         private static boolean isGap(Row text, int i, int end) {

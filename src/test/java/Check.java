@@ -7,6 +7,11 @@ final class Check {
     static final Class<?> BAD_STATE = IllegalStateException.class;
     static final Class<?> UNSUPPORTED = UnsupportedOperationException.class;
 
+    static final String DIGITS = "0123456789";
+    static final String LETTERS = "ABCDEFGHIJKLMNOPQRSTUVWXYZabcdefghijklmnopqrstuvwxyz";
+    static final String FREE = LETTERS + DIGITS + "-._~";
+    static final String SUBS = "!$&'()*+,;=";
+
     private static int wrong;
     private static int checked;
 
@@ -63,10 +68,14 @@ final class Check {
         return x;
     }
 
+    /** One call for eight bytes, as an object has but 512 calls. */
     static String out(LinkLibrary x, int length) {
         StringBuilder text = new StringBuilder();
-        for (int i = 0; i < length; i++) {
-            text.append((char) (x.word(i / 8) >>> 8 * (i % 8) & 255));
+        for (int i = 0; i < length; i += 8) {
+            long word = x.word(i / 8);
+            for (int k = 0; k < 8 && i + k < length; k++) {
+                text.append((char) (word >>> 8 * k & 255));
+            }
         }
         return text.toString();
     }
@@ -88,5 +97,21 @@ final class Check {
             due("a fault of " + text + " leaves the link", x.write(0), 0);
         }
         return x.fault(false) + "@" + x.fault(true);
+    }
+
+    /** The whole out, as far as a link can fill it; it takes 50 calls. */
+    static String wholeOut(LinkLibrary x) {
+        return out(x, 400).replaceFirst("\u0000+$", "");
+    }
+
+    static void fault(String text, String want) {
+        due("fault of " + text, faultOf(text), want);
+    }
+
+    /** Texts that all are references, or that all have the fault, as in "4@2". */
+    static void faults(String want, String... texts) {
+        for (String text : texts) {
+            fault(text, want);
+        }
     }
 }

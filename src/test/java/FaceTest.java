@@ -1,4 +1,6 @@
+import com.sun.management.ThreadMXBean;
 import java.io.IOException;
+import java.lang.management.ManagementFactory;
 import java.lang.reflect.Constructor;
 import java.lang.reflect.Field;
 import java.lang.reflect.Method;
@@ -44,6 +46,7 @@ public final class FaceTest {
         face();
         members(LinkLibrary.class);
         text(Files.readString(Path.of("src/main/java/LinkLibrary.java")));
+        room();
         Check.end();
     }
 
@@ -103,6 +106,33 @@ public final class FaceTest {
         for (String line : bare.split("\n")) {
             length = line.matches("    (    )?(private|public|static).*\\{|    (    )?(private|public).*\\)") ? 0 : length + 1;
             Check.due("a long method at: " + line, length <= 60, true);
+        }
+    }
+
+    /** All room is made in the constructor: rule 12 counts what the calls of a run make. */
+    private static void room() {
+        ThreadMXBean threads = (ThreadMXBean) ManagementFactory.getThreadMXBean();
+        long thread = Thread.currentThread().getId();
+        dearCalls(Check.with("http://h/" + "a/".repeat(190), "http://h/" + "b/".repeat(190)), 20);
+        LinkLibrary x = Check.with("http://h/" + "a/".repeat(190), "http://h/" + "b/".repeat(190));
+        long before = threads.getThreadAllocatedBytes(thread);
+        dearCalls(x, 60);
+        long made = threads.getThreadAllocatedBytes(thread) - before;
+        Check.due("360 dear calls make little, not " + made, made < 20_000, true);
+        before = threads.getThreadAllocatedBytes(thread);
+        new LinkLibrary();
+        made = threads.getThreadAllocatedBytes(thread) - before;
+        Check.due("an object is small, not " + made, made < 100_000, true);
+    }
+
+    private static void dearCalls(LinkLibrary x, int rounds) {
+        for (int i = 0; i < rounds; i++) {
+            x.relate(2, 0, 1);
+            x.resolve(3, 0, 2, true);
+            x.normalise(4, 3, 31);
+            x.same(3, 4, 31);
+            x.segment(4, 180);
+            x.write(1);
         }
     }
 }
