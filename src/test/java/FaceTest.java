@@ -112,16 +112,15 @@ public final class FaceTest {
     /** All room is made in the constructor: rule 12 counts what the calls of a run make. */
     private static void room() {
         ThreadMXBean threads = (ThreadMXBean) ManagementFactory.getThreadMXBean();
-        long thread = Thread.currentThread().getId();
         dearCalls(Check.with("http://h/" + "a/".repeat(190), "http://h/" + "b/".repeat(190)), 20);
         LinkLibrary x = Check.with("http://h/" + "a/".repeat(190), "http://h/" + "b/".repeat(190));
-        long before = threads.getThreadAllocatedBytes(thread);
+        long before = threads.getCurrentThreadAllocatedBytes();
         dearCalls(x, 60);
-        long made = threads.getThreadAllocatedBytes(thread) - before;
+        long made = threads.getCurrentThreadAllocatedBytes() - before;
         Check.due("360 dear calls make little, not " + made, made < 20_000, true);
-        before = threads.getThreadAllocatedBytes(thread);
+        before = threads.getCurrentThreadAllocatedBytes();
         new LinkLibrary();
-        made = threads.getThreadAllocatedBytes(thread) - before;
+        made = threads.getCurrentThreadAllocatedBytes() - before;
         Check.due("an object is small, not " + made, made < 100_000, true);
     }
 
